@@ -53,7 +53,7 @@ public final class FactOrigins {
     private static final int WORD_BITS = 64;
 
     private static final int MANTISSA_BITS = 23;
-    private static final float MANTISSA_UNITS = 8388608f;
+    private static final int MANTISSA_UNITS = 1 << MANTISSA_BITS;
     private static final int EXPONENT_OF_ONE = 127;
 
     private final Program program = new Program();
@@ -644,8 +644,6 @@ public final class FactOrigins {
         }
 
         private boolean readRule(Program program) {
-            rule.literals = 0;
-            rule.negated[0] = false;
             if (!readAtom(program, 0) || !take('<')) {
                 return false;
             }
@@ -808,22 +806,20 @@ public final class FactOrigins {
 
         private void fillInstance(Rule rule, int r, int instance) {
             ruleOf[instance] = r;
-            head[instance] = atomOf(rule, 0);
             int plain = instance * MOST_LITERALS;
             int negated = plain + plainCount[r];
-            for (int k = 1; k <= rule.literals; k++) {
-                if (rule.negated[k]) {
-                    body[negated] = atomOf(rule, k);
+            for (int k = 0; k <= rule.literals; k++) {
+                int atom = atomNumber(rule.predicate[k], meaning[rule.first[k]], meaning[rule.second[k]]);
+                if (k == 0) {
+                    head[instance] = atom;
+                } else if (rule.negated[k]) {
+                    body[negated] = atom;
                     negated++;
                 } else {
-                    body[plain] = atomOf(rule, k);
+                    body[plain] = atom;
                     plain++;
                 }
             }
-        }
-
-        private int atomOf(Rule rule, int k) {
-            return atomNumber(rule.predicate[k], meaning[rule.first[k]], meaning[rule.second[k]]);
         }
     }
 

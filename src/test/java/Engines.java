@@ -1,4 +1,4 @@
-/** Short ways to bring an engine into a state. Each tells if a step is refused that ought to be taken. */
+/** Short ways to bring an engine into a state. They throw if the engine refuses a step. */
 final class Engines {
     private Engines() {
     }

@@ -47,6 +47,9 @@ public final class PromisesTest {
         slots();
         checksum();
         errorsChangeNothing();
+        mostInstances();
+        firstAndLastAtom();
+        changesAreSeen();
         CHECK.end();
     }
 
@@ -842,8 +845,8 @@ public final class PromisesTest {
         engine.append('?');
         engine.save(0);
         long before = engine.checksum();
-        int[] answers = {engine.begin(0), engine.setPlaces(Q, 1), engine.setPlaces(R, 3), engine.addFact(Q, 9, 0, 0, 1),
-            engine.addFact(Q, 0, 0, 0, 17), engine.removeFact(1), engine.removeRule(1), engine.append(-1),
+        int[] answers = {engine.begin(0), engine.setPlaces(Q, 1), engine.setPlaces(R, 3),
+            engine.addFact(Q, 9, 0, 0, 1), engine.addFact(Q, 0, 0, 0, 17), engine.removeFact(1), engine.removeRule(1), engine.append(-1),
             engine.addRule(1), engine.addRule(0), engine.save(2), engine.restore(1), engine.restore(2)};
         for (int answer : answers) {
             due("an error", answer < 0 && answer != NONE ? 1 : 0, 1);
@@ -851,5 +854,96 @@ public final class PromisesTest {
         due("checksum() after errors", engine.checksum(), before);
         due("the places after errors", engine.setPlaces(R, 2), 2);
         due("the text after errors", engine.clearText(), 14);
+    }
+
+    /** Eight rules of six constants and three variables, of which all instances hold. */
+    private static void mostInstances() {
+        FactOrigins engine = new FactOrigins();
+        engine.begin(6);
+        for (int i = 0; i < 6; i++) {
+            Engines.fact(engine, U, i, i, i, 16 - i);
+        }
+        Engines.rule(engine, 1, "q(X,Y)<u(X,X),u(Y,Y),u(Z,Z)");
+        for (int r = 1; r < 7; r++) {
+            Engines.rule(engine, 9 - r, "p(X,Y)<q(X,Y),q(Y,Z),q(Z,X)");
+        }
+        Engines.rule(engine, 1, "p(Y,X)<q(Z,X),!r(X,Y),q(Y,Z)");
+        due("the size", engine.size(), 6 + 36 + 36);
+        due("the instances of a head", engine.instances(P, 5, 5), 42);
+        due("the instances of another", engine.instances(Q, 5, 5), 6);
+        due("the cost by the last rule", engine.cost(P, 5, 4), 1 + (1 + 4) + (1 + 5));
+        due("the last rule", engine.least(P, 5, 4, 0), 7);
+        due("its base facts", engine.least(P, 5, 4, 2), 0b110001);
+        due("a likelihood", engine.likelihood(P, 5, 4),
+                Float.floatToIntBits(12 / 16f * 1f * 1f * (11 / 16f * 1f * 1f)));
+        due("what it needs", engine.needs(P, 5, 4), 0b110000);
+        due("where it is cut", engine.cut(P, 5, 4), 0b10000);
+        due("the size without a constant", engine.sizeWithout(0b1000), 5 + 25 + 25);
+    }
+
+    /** Each answer about a fact at the ends of the ranges, and about its neighbours that are not there. */
+    private static void firstAndLastAtom() {
+        FactOrigins engine = new FactOrigins();
+        engine.begin(6);
+        Engines.rule(engine, 2, "p(0,0)<!r(0,0)");
+        Engines.rule(engine, 3, "u(5,5)<p(0,0),q(0,0)");
+        Engines.fact(engine, Q, 0, 0, 4, 5);
+        due("the first: round", engine.round(P, 0, 0), 1);
+        due("the first: instances", engine.instances(P, 0, 0), 1);
+        due("the first: cost", engine.cost(P, 0, 0), 2);
+        dueLikelihood(engine, P, 0, 0, 1f);
+        due("the first: least", engine.least(P, 0, 0, 1), 1);
+        due("the first: needs", engine.needs(P, 0, 0), 0);
+        due("the first: cut", engine.cut(P, 0, 0), NONE);
+        due("the first: holdsWithout", engine.holdsWithout(1, P, 0, 0), 1);
+        due("the last: round", engine.round(U, 5, 5), 2);
+        due("the last: instances", engine.instances(U, 5, 5), 1);
+        due("the last: cost", engine.cost(U, 5, 5), 9);
+        dueLikelihood(engine, U, 5, 5, 5 / 16f);
+        due("the last: least", engine.least(U, 5, 5, 1), 3);
+        due("the last: needs", engine.needs(U, 5, 5), 1);
+        due("the last: cut", engine.cut(U, 5, 5), 1);
+        due("the last: holdsWithout", engine.holdsWithout(1, U, 5, 5), 0);
+        due("a neighbour of the first", engine.cost(P, 0, 1), NONE);
+        due("a neighbour of the last", engine.cost(U, 5, 4), NONE);
+        // p(0,1) stands beside p(0,0), which needs nothing, but needs its own base fact.
+        Engines.fact(engine, P, 0, 1, 1, 1);
+        due("a neighbour's needs", engine.needs(P, 0, 1), 0b10);
+        due("a neighbour's cut", engine.cut(P, 0, 1), 0b10);
+    }
+
+    /** What has been asked for before a change does not show after it. */
+    private static void changesAreSeen() {
+        FactOrigins engine = new FactOrigins();
+        long[] empty = everything(engine);
+        Engines.fact(engine, Q, 0, 1, 3, 8);
+        long[] withFact = everything(engine);
+        Engines.rule(engine, 2, "p(0,0)<q(X,Y)");
+        engine.save(0);
+        long[] withRule = everything(engine);
+        Engines.fact(engine, Q, 0, 1, 1, 16);
+        long[] withTwoFacts = everything(engine);
+        dueEach("a fact and a rule", withRule, 2, 0, 1, 0b1, 0b1, 5, 0b1, Float.floatToIntBits(0.5f));
+        dueEach("two facts and a rule", withTwoFacts, 2, 2, 1, 0, 0b11, 3, 0b10, Float.floatToIntBits(1f));
+        engine.removeFact(1);
+        dueEach("after removeFact", everything(engine), withRule);
+        engine.removeRule(0);
+        dueEach("after removeRule", everything(engine), withFact);
+        engine.restore(0);
+        dueEach("after restore", everything(engine), withRule);
+        engine.begin(4);
+        dueEach("after begin", everything(engine), empty);
+    }
+
+    private static long[] everything(FactOrigins engine) {
+        return new long[] {engine.size(), engine.sizeWithout(1), engine.rounds(), engine.needs(P, 0, 0),
+            engine.cut(P, 0, 0), engine.cost(P, 0, 0), engine.least(P, 0, 0, 2), engine.likelihood(P, 0, 0),
+            engine.instances(P, 0, 0), engine.stratum(P), engine.checksum()};
+    }
+
+    private static void dueEach(String what, long[] got, long... want) {
+        for (int i = 0; i < want.length; i++) {
+            due(what + ", answer " + i, got[i], want[i]);
+        }
     }
 }

@@ -330,6 +330,20 @@ final class Reference {
         return found;
     }
 
+    /** Predicate and constants of a fact of the model, or null if there is none. */
+    int[] someFact(int number) {
+        if (strata() == null) {
+            return null;
+        }
+        List<String> atoms = new ArrayList<>(build(0).keySet());
+        if (atoms.isEmpty()) {
+            return null;
+        }
+        atoms.sort(null);
+        String atom = atoms.get(number % atoms.size());
+        return new int[] {atom.charAt(0) - 'p', atom.charAt(1) - '0', atom.length() == 3 ? atom.charAt(2) - '0' : 0};
+    }
+
     int stratum(int predicate) {
         if (predicate < 0 || predicate > 5) {
             return BAD_INDEX;

@@ -1,6 +1,6 @@
 /** Runs of made-up calls, each on a FactOrigins and on a Reference; both must answer the same. */
 public final class ReferenceTest {
-    private static final int RUNS = 400;
+    private static final int RUNS = 200;
     private static final int MOST_CALLS = 512;
 
     private final Check check;
@@ -49,10 +49,10 @@ public final class ReferenceTest {
                 setPlaces(p, 1);
             }
         }
-        for (int i = below(10); i > 0; i--) {
+        for (int i = 1 + below(12); i > 0; i--) {
             addFact();
         }
-        for (int i = below(6); i > 0; i--) {
+        for (int i = 1 + below(9); i > 0; i--) {
             addRule();
         }
         while (calls < MOST_CALLS - 80 && check.allDue()) {
@@ -63,15 +63,15 @@ public final class ReferenceTest {
 
     private void step() {
         int kind = below(100);
-        if (kind < 12) {
+        if (kind < 10) {
             change();
-        } else if (kind < 20) {
+        } else if (kind < 16) {
             addFact();
-        } else if (kind < 26) {
+        } else if (kind < 20) {
             addRule();
-        } else if (kind < 30) {
+        } else if (kind < 22) {
             messText();
-        } else if (kind < 40) {
+        } else if (kind < 36) {
             askModel();
         } else if (kind < 96) {
             askFact();
@@ -99,9 +99,9 @@ public final class ReferenceTest {
     private void change() {
         int kind = below(20);
         int index = oneOf(-1, 0, 0, 1, 1, 2, 3, 5, 7, 8, 11, 12, Integer.MAX_VALUE, Integer.MIN_VALUE);
-        if (kind < 6) {
+        if (kind < 5) {
             due("removeFact(" + index + ")", engine.removeFact(index), reference.removeFact(index));
-        } else if (kind < 12) {
+        } else if (kind < 7) {
             due("removeRule(" + index + ")", engine.removeRule(index), reference.removeRule(index));
         } else if (kind < 14) {
             setPlaces(oneOf(-1, 0, 1, 2, 3, 4, 5, 6), oneOf(0, 1, 1, 2, 2, 3));
@@ -159,14 +159,25 @@ public final class ReferenceTest {
     }
 
     private String ruleText() {
-        StringBuilder made = new StringBuilder();
-        int head = below(6);
-        made.append(atomText(head)).append('<');
         int literals = 1 + below(3);
+        int head = Math.max(below(6), below(6));
+        String bound = "";
+        String[] atoms = new String[literals];
+        boolean[] negated = new boolean[literals];
         for (int k = 0; k < literals; k++) {
-            made.append(k == 0 ? "" : ",");
-            boolean negated = below(4) == 0;
-            made.append(negated ? "!" : "").append(atomText(negated && head > 0 ? below(head) : below(6)));
+            negated[k] = below(4) == 0;
+            if (!negated[k]) {
+                int part = below(25) == 0 ? below(6) : below(head + 1);
+                atoms[k] = atomText(below(4) == 0 ? head : part, "XYZ");
+                bound = bound + atoms[k].replaceAll("[^XYZ]", "");
+            }
+        }
+        StringBuilder made = new StringBuilder(atomText(head, below(20) == 0 ? "XYZ" : bound)).append('<');
+        for (int k = 0; k < literals; k++) {
+            if (negated[k]) {
+                atoms[k] = "!" + atomText(head > 0 ? below(head) : below(6), below(20) == 0 ? "XYZ" : bound);
+            }
+            made.append(k == 0 ? "" : ",").append(atoms[k]);
         }
         if (below(25) == 0) {
             made.setCharAt(below(made.length()), "pX0,)(!<6".charAt(below(9)));
@@ -174,13 +185,14 @@ public final class ReferenceTest {
         return made.toString();
     }
 
-    private String atomText(int predicate) {
-        String terms = term() + (places[predicate] == 1 ? "" : "," + term());
+    private String atomText(int predicate, String variables) {
+        String terms = term(variables) + (places[predicate] == 1 ? "" : "," + term(variables));
         return (char) ('p' + predicate) + "(" + terms + ")";
     }
 
-    private String term() {
-        return below(6) == 0 ? "" + below(constants) : "" + "XYZXYX".charAt(below(6));
+    private String term(String variables) {
+        boolean constant = variables.isEmpty() || below(8) == 0;
+        return constant ? "" + below(constants) : "" + variables.charAt(below(variables.length()));
     }
 
     /** Texts with a fault somewhere. */
@@ -221,6 +233,12 @@ public final class ReferenceTest {
         int b = second(p);
         int what = below(20) == 0 ? oneOf(-1, 3) : below(3);
         int without = below(20) == 0 ? oneOf(-1, Integer.MAX_VALUE) : below(1 << 12) & below(1 << 12);
+        int[] known = below(4) == 0 ? null : reference.someFact(below(1 << 20));
+        if (known != null) {
+            p = known[0];
+            a = known[1];
+            b = known[2];
+        }
         String fact = "(" + p + ", " + a + ", " + b + ")";
         switch (below(8)) {
             case 0 -> due("round" + fact, engine.round(p, a, b), reference.round(p, a, b));
