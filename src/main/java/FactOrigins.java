@@ -766,7 +766,9 @@ public final class FactOrigins {
             for (int pass = 0; changed && pass <= PREDICATES; pass++) {
                 changed = false;
                 for (int r = 0; r < program.ruleCount; r++) {
-                    changed |= raiseHead(program.ruleList[r]);
+                    if (raiseHead(program.ruleList[r])) {
+                        changed = true;
+                    }
                 }
             }
             stratified = !changed;
@@ -862,8 +864,8 @@ public final class FactOrigins {
             for (int turn = 0; found && turn < MOST_PASSES; turn++) {
                 found = false;
                 for (int r = 0; r < grounding.ruleCount; r++) {
-                    if (grounding.headStratum[r] == stratum) {
-                        found |= takeHeads(grounding, r, lastRound + 1);
+                    if (grounding.headStratum[r] == stratum && takeHeads(grounding, r, lastRound + 1)) {
+                        found = true;
                     }
                 }
                 if (found) {
@@ -1058,7 +1060,9 @@ public final class FactOrigins {
                 changed = false;
                 for (int i = 0; i < holding.total; i++) {
                     int instance = holding.instance[i];
-                    changed |= raise(grounding.head[instance], likelihoodBy(grounding, instance));
+                    if (raise(grounding.head[instance], likelihoodBy(grounding, instance))) {
+                        changed = true;
+                    }
                 }
             }
         }
@@ -1119,7 +1123,9 @@ public final class FactOrigins {
             for (int pass = 0; changed && pass < MOST_PASSES; pass++) {
                 changed = false;
                 for (int i = 0; i < holding.total; i++) {
-                    changed |= widen(grounding, holding.instance[i]);
+                    if (widen(grounding, holding.instance[i])) {
+                        changed = true;
+                    }
                 }
             }
         }

@@ -1,20 +1,5 @@
 /** Each promise of the document, with ordinary inputs, the edges that it names, and wrong inputs. */
-public final class PromisesTest {
-    private static final int BAD_INDEX = -1;
-    private static final int BAD_VALUE = -2;
-    private static final int NOT_POSSIBLE = -3;
-    private static final int FULL = -4;
-    private static final int NONE = -5;
-    private static final int NO_MODEL = -6;
-    private static final int LOWEST = Integer.MIN_VALUE;
-    private static final int HIGHEST = Integer.MAX_VALUE;
-    private static final int P = 0;
-    private static final int Q = 1;
-    private static final int R = 2;
-    private static final int S = 3;
-    private static final int T = 4;
-    private static final int U = 5;
-
+public final class PromisesTest implements Names {
     private static final Check CHECK = new Check("PromisesTest");
 
     private PromisesTest() {
@@ -846,8 +831,9 @@ public final class PromisesTest {
         engine.save(0);
         long before = engine.checksum();
         int[] answers = {engine.begin(0), engine.setPlaces(Q, 1), engine.setPlaces(R, 3),
-            engine.addFact(Q, 9, 0, 0, 1), engine.addFact(Q, 0, 0, 0, 17), engine.removeFact(1), engine.removeRule(1), engine.append(-1),
-            engine.addRule(1), engine.addRule(0), engine.save(2), engine.restore(1), engine.restore(2)};
+            engine.addFact(Q, 9, 0, 0, 1), engine.addFact(Q, 0, 0, 0, 17), engine.removeFact(1),
+            engine.removeRule(1), engine.append(-1), engine.addRule(1), engine.addRule(0),
+            engine.save(2), engine.restore(1), engine.restore(2)};
         for (int answer : answers) {
             due("an error", answer < 0 && answer != NONE ? 1 : 0, 1);
         }
