@@ -41,6 +41,7 @@ public final class BoundaryTest implements Names {
         endsOfTheForm();
         termsOfAnAtom();
         variablesWithoutLiteral();
+        textsAfterLongerOnes();
         faultFollowsTheState();
         emptyEngine();
         beginAnew();
@@ -735,6 +736,22 @@ public final class BoundaryTest implements Names {
         due("a head's variable before a body's", Engines.fault(engine, "p(X,Z)<q(X,0),!r(Y,0)"), 4);
         due("a fault of the form before that", Engines.fault(engine, "p(X,Z)<q(X,0),!r(Y,0),"), 22);
         due("a variable of another literal", Engines.fault(engine, "p(X,Z)<q(X,0),!r(Y,0),s(Y,Y)"), 4);
+    }
+
+    /** clearText "Empties the text": nothing of a longer text is seen behind a shorter one. */
+    private static void textsAfterLongerOnes() {
+        String whole = "p(Y,Z)<q(Y,Z),r(Y,Z),s(Y,Z)";
+        for (char before : new char[] {'X', ',', ')', '<', 'Y'}) {
+            for (int length = 0; length <= whole.length(); length++) {
+                FactOrigins engine = new FactOrigins();
+                for (int i = 0; i < 60; i++) {
+                    engine.append(before);
+                }
+                boolean ends = length == 13 || length == 20 || length == 27;
+                due("the fault of the first " + length + " after 60 of " + before,
+                        Engines.fault(engine, whole.substring(0, length)), ends ? NONE : length);
+            }
+        }
     }
 
     /** The form depends on n and the places as they are when the text is looked at. */
