@@ -4,9 +4,9 @@ import java.util.List;
  * The sentences that need several calls to show: what a removal, a begin, a save or a restore leaves as it was, and
  * that nothing that is kept between calls outlives a change.
  *
- * <p>A history is played up to each of its steps; then its engine must tell what a new one tells that is brought
- * straight to the state that the document says. Between the steps the engine is asked, so that it has computed what
- * it may keep.
+ * <p>A history is played up to each of its steps (a made-up one to its end); then its engine must tell what a new
+ * one tells that is brought straight to the state that the document says. Between the steps the engine is asked, so
+ * that it has computed what it may keep.
  */
 public final class HistoryTest implements Names {
     private static final Check CHECK = new Check("HistoryTest");
